@@ -1,5 +1,7 @@
-/** Counts answers that are not the ones that are due, and prints each of them. */
+/** Counts answers that are not the ones that are due, and prints the first of them. */
 final class Due {
+    private static final int MOST_PRINTED = 40;
+
     private final String test;
     private int wrong = 0;
 
@@ -10,7 +12,7 @@ final class Due {
     void is(String call, long got, long due) {
         if (got == due) return;
         wrong++;
-        System.out.println(test + ": " + call + " answered " + got + ", due is " + due);
+        if (wrong <= MOST_PRINTED) System.out.println(test + ": " + call + " answered " + got + ", due is " + due);
     }
 
     void is(String call, boolean got, boolean due) {
