@@ -9,7 +9,9 @@ public final class BasketsTest {
         leastFares();
         moreBirdsFirst();
         birdsThatCount();
+        eachByItself();
         full();
+        lastTown();
         refused();
         send();
         due.end();
@@ -132,6 +134,39 @@ public final class BasketsTest {
         best("none at HOME any more", post, 0, 0, 0, 0);
     }
 
+    /** Each call finds the BEST CARRYING of its HOME anew, whatever was asked ahead of it. */
+    private static void eachByItself() {
+        PigeonPost post = Posts.withTowns(3);
+        Posts.birds(post, 3, 0, 0);
+        Posts.birds(post, 9, 1, 1);
+        post.want(2, 0, 2, 5);
+        post.want(2, 1, 8, 6);
+        post.fare(1, 2, 30);
+        due.fine("carried(0, 2)", post, post.carried(0, 2), 2);
+        due.fine("carried(1, 2)", post, post.carried(1, 2), 8);
+        due.fine("fares(0)", post, post.fares(0), 10);
+        due.fine("fares(1)", post, post.fares(1), 60);
+        due.fine("carrying(0)", post, post.carrying(0), 10);
+        due.fine("carrying(1)", post, post.carrying(1), 48);
+        due.fine("send(0)", post, post.send(0), 2);
+        due.fine("send(1)", post, post.send(1), 8);
+        due.fine("nothing more", post, post.carried(1, 2), 0);
+        post.want(2, 0, 3, 5);
+        due.fine("one more WANTED", post, post.carried(0, 2), 1);
+    }
+
+    private static void lastTown() {
+        PigeonPost post = Posts.withTowns(10);
+        Posts.birds(post, 7, 8, 8);
+        post.want(9, 8, 7, 100);
+        post.fare(8, 9, 25);
+        due.fine("fares(8)", post, post.fares(8), 50);
+        due.fine("carrying(8)", post, post.carrying(8), 700);
+        due.fine("carried(8, 9)", post, post.carried(8, 9), 7);
+        due.fine("send(8)", post, post.send(8), 7);
+        due.fine("waits(8, 9)", post, post.waits(8, 9), 7);
+    }
+
     private static void full() {
         PigeonPost post = Posts.withTowns(10);
         Posts.birds(post, 60, 9, 9);
@@ -141,12 +176,8 @@ public final class BasketsTest {
         }
         due.fine("the most WORTH", post, post.carrying(9), 6000);
         due.fine("the most BASKETS that are needed", post, post.fares(9), 10000);
-        int[] loads = {20, 20, 20, 0, 0, 0, 0, 0, 0};
         // 20 birds need four BASKETS, 18 three
-        loads[0] = 18;
-        loads[1] = 18;
-        loads[2] = 18;
-        loads[3] = 6;
+        int[] loads = {18, 18, 18, 6, 0, 0, 0, 0, 0};
         for (int town = 0; town < 9; town++) {
             due.fine("carried(9, " + town + ")", post, post.carried(9, town), loads[town]);
         }
